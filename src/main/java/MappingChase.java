@@ -718,7 +718,7 @@ public final class MappingChase {
          * on; they are then those of the match. What is satisfied by the variables that settle it
          * is left at once, since the values of the others cannot change that.
          */
-        boolean findUnsatisfied(Rule rule, int variable, int settledBy) {
+        private boolean findUnsatisfied(Rule rule, int variable, int settledBy) {
             if (variable == settledBy && isSatisfied(rule)) {
                 return false;
             }

@@ -39,8 +39,9 @@ final class ChaseModel {
     private Rule query = null;
     private Rule draft = null;
     private int state = 0;
-    /** How many values the last fold told. */
+    /** How many values the last fold told, and how many it may. */
     int told = 0;
+    int mostTold = 10000;
 
     boolean open(int kind) {
         if (kind < 0 || kind > 2) {
@@ -390,7 +391,7 @@ final class ChaseModel {
             return image(map).equals(targets) ? 0 : 1;
         }
         for (int value : values()) {
-            if (told == 10000) {
+            if (told == mostTold) {
                 return MANY;
             }
             told++;

@@ -32,6 +32,8 @@ public final class ModelTest {
             ModelTest test = new ModelTest(checks, seed);
             if (seed % 4 == 0) {
                 test.playAnyCalls();
+            } else if (seed % 20 == 1) {
+                test.playNulls(states, folds);
             } else {
                 test.playScenario(states, folds);
             }
@@ -41,6 +43,7 @@ public final class ModelTest {
         }
         checks.due("runs that folded are enough", folds[1] > 50, true);
         checks.due("runs that did not fold are enough", folds[0] > 50, true);
+        checks.due("runs that told too much are enough", folds[2] > 20, true);
         System.out.println("states reached: " + java.util.Arrays.toString(states)
                 + ", folds that found none, one, too many: " + java.util.Arrays.toString(folds));
         checks.end();
@@ -155,6 +158,15 @@ public final class ModelTest {
         close();
     }
 
+    private void generatorOfNulls(int source) {
+        open(0);
+        body(source, 1, 1);
+        head(2 + below(4), 0, 3);
+        boolean turned = below(2) == 0;
+        head(2 + below(4), turned ? 3 : 2, turned ? 2 : 3);
+        close();
+    }
+
     private void withPair(int kind) {
         open(kind);
         int atoms = 1 + below(3);
@@ -185,6 +197,33 @@ public final class ModelTest {
         for (int i = 0; i < facts; i++) {
             fact(below(2), below(constants), below(constants));
         }
+        chase(states, folds);
+    }
+
+    /** Nulls that hang together among themselves alone: the maps to be tried are many then. */
+    private void playNulls(int[] states, int[] folds) {
+        generatorOfNulls(below(2));
+        generatorOfNulls(below(2));
+        if (below(2) == 0) {
+            open(0);
+            body(1, 1, 1);
+            head(2 + below(4), 0, 3);
+            close();
+        }
+        open(0);
+        body(1, 0, 1);
+        head(2 + below(4), 0, 1);
+        close();
+        fact(0, 0, 0);
+        fact(1, 0, 0);
+        int facts = below(10);
+        for (int i = 0; i < facts; i++) {
+            fact(1, below(16), below(16));
+        }
+        chase(states, folds);
+    }
+
+    private void chase(int[] states, int[] folds) {
         due("acyclic()", real.acyclic(), model.acyclic());
         due("start()", real.start(), model.start());
         for (int i = 0; i < 60 && model.state() == 1; i++) {

@@ -1,4 +1,4 @@
-/** Promises 19 to 21: fold, answers, answer. */
+/** Promises 19 to 21: fold (its limit is in FoldLimitTest), answers, answer. */
 public final class OutcomeTest {
     private static final Checks CHECKS = new Checks();
 
