@@ -573,8 +573,6 @@ public final class MappingChase {
             body.count = 0;
             head.count = 0;
             hasPair = false;
-            first = 0;
-            second = 0;
         }
 
         void setPair(int v, int w) {

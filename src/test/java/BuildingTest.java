@@ -19,6 +19,7 @@ public final class BuildingTest {
         drop();
         fact();
         take();
+        takeBeforeChase();
         acyclic();
         CHECKS.end();
     }
@@ -157,6 +158,8 @@ public final class BuildingTest {
         due("close, no draft for body", x.body(2, 0, 0), MappingChase.NONE);
         due("close 1", Scenes.equation(x, 0, 1, atom(2, 0, 1)), 1);
         due("close a query", Scenes.query(x, 0, 1, atom(2, 0, 1)), 0);
+        due("close a query, no draft then", x.close(), MappingChase.NONE);
+        due("close a query, no draft for pair", x.pair(0, 0), false);
         due("close 2", Scenes.generator(x, atom(2, 0, 1), atom(3, 0, 1)), 2);
         due("close 3", Scenes.generator(x, atom(1, 0, 1), atom(3, 0, 1)), 3);
         due("close 4", Scenes.equation(x, 0, 0, atom(2, 0, 1)), 4);
@@ -322,6 +325,26 @@ public final class BuildingTest {
             due("take a target fact in state " + state, x.take(2, 1, 2), false);
             due("take refused in state " + state, x.size(0) * 100 + x.size(2), sizes);
         }
+    }
+
+    /** What is taken has no match any more, and what is left still has its own. */
+    private static void takeBeforeChase() {
+        MappingChase x = new MappingChase();
+        Scenes.generator(x, atom(0, 0, 1), atom(2, 0, 1));
+        Scenes.generator(x, atom(0, 0, 0), atom(3, 0, 0));
+        x.open(0);
+        x.body(0, 0, 2);
+        x.body(0, 1, 2);
+        x.head(4, 0, 1);
+        x.close();
+        Scenes.facts(x, 0, 1, 2, 1, 3, 4, 3, 5, 5, 6, 6, 6, 7, 7, 6);
+        x.take(0, 1, 3);
+        x.take(0, 5, 5);
+        x.take(0, 6, 7);
+        Scenes.chase(x);
+        due("take, then the pairs", x.size(2), 4);
+        due("take, then the doubles", x.size(3) * 1000 + x.at(3, 0), 1198);
+        due("take, then the join", x.size(4), 6);
     }
 
     private static boolean isAcyclic(int[][]... generators) {

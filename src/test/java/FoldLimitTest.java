@@ -44,7 +44,26 @@ public final class FoldLimitTest {
         scene("found at 10001", FOUND_AT_10001, FACTS_FOUND_AT_10001, 10001, 2, MappingChase.MANY);
         scene("none with 10000", NONE_WITH_10000, FACTS_NONE_WITH_10000, 10000, 0, 0);
         scene("far too many", FAR_TOO_MANY, FACTS_FAR_TOO_MANY, 12000, ChaseModel.MANY, MappingChase.MANY);
+        afterTooMany();
         CHECKS.end();
+    }
+
+    /** That one fold was too long says nothing of the next one. */
+    private static void afterTooMany() {
+        MappingChase x = new MappingChase();
+        Scenes.generator(x, Scenes.atom(0, 1, 1), Scenes.atom(3, 0, 3), Scenes.atom(4, 3, 2));
+        Scenes.generator(x, Scenes.atom(1, 1, 1), Scenes.atom(5, 0, 3), Scenes.atom(5, 2, 3));
+        Scenes.generator(x, Scenes.atom(1, 1, 1), Scenes.atom(2, 0, 3));
+        Scenes.generator(x, Scenes.atom(1, 0, 1), Scenes.atom(4, 0, 1));
+        Scenes.facts(x, 0, 1, 1);
+        Scenes.facts(x, 1, 1, 1, 2, 3, 4, 5, 6, 7, 8, 9, 10, 11, 12, 13);
+        Scenes.chase(x);
+        CHECKS.due("too many", x.fold(), MappingChase.MANY);
+        x.reset();
+        x.take(1, 1, 1);
+        Scenes.chase(x);
+        CHECKS.due("nulls after too many", x.nulls(), 3);
+        CHECKS.due("none after too many", x.fold(), 0);
     }
 
     /** With how many told what would be answered, and what is due with the limit. */
