@@ -26,8 +26,7 @@ public final class ChasingTest {
     }
 
     private static void dueFacts(String call, MappingChase x, int relation, String want) {
-        String got = Scenes.show(x, relation);
-        CHECKS.due(call + ": the facts are " + got + ", due are " + want + ";", got.equals(want), true);
+        CHECKS.due(call, Scenes.show(x, relation), want);
     }
 
     private static int[] atom(int relation, int v, int w) {

@@ -15,6 +15,10 @@ final class Checks {
         due(call, got ? 1 : 0, want ? 1 : 0);
     }
 
+    void due(String call, String got, String want) {
+        due(call + ": " + got + " where " + want + " is due,", got.equals(want), true);
+    }
+
     int wrong() {
         return wrong;
     }

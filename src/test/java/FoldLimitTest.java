@@ -97,7 +97,7 @@ public final class FoldLimitTest {
         String before = all(x);
         CHECKS.due(name + ": fold", x.fold(), due);
         if (due <= 0) {
-            CHECKS.due(name + ": nothing is changed", all(x).equals(before), true);
+            CHECKS.due(name + ": nothing is changed", all(x), before);
             CHECKS.due(name + ": fold again", x.fold(), due);
         } else {
             for (int relation = 2; relation < 6; relation++) {
