@@ -19,6 +19,10 @@ final class Checks {
         due(call + ": " + got + " where " + want + " is due,", got.equals(want), true);
     }
 
+    int made() {
+        return made;
+    }
+
     int wrong() {
         return wrong;
     }

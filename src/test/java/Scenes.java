@@ -1,6 +1,47 @@
-/** Short ways to bring a MappingChase where a test wants it. An atom is {relation, v, w}. */
+/**
+ * Short ways to bring a MappingChase where a test wants it. An atom is {relation, v, w}; or a whole
+ * rule is a text: "0:01 -> 2:02 3:21" a generator, "2:01 2:02 = 12" an equation, "2:01 3:12 ? 02" a
+ * query, where 3:12 is the atom of relation 3 with the variables 1 and 2. Any part may be left out.
+ */
 final class Scenes {
     private Scenes() {
+    }
+
+    /** A new object with these rules closed. */
+    static MappingChase of(String... rules) {
+        MappingChase x = new MappingChase();
+        for (String rule : rules) {
+            close(x, rule);
+        }
+        return x;
+    }
+
+    static int close(MappingChase x, String rule) {
+        draft(x, rule);
+        return x.close();
+    }
+
+    /** Opens a draft and gives it what the rule says; answers the object, for a scene in one line. */
+    static MappingChase draft(MappingChase x, String rule) {
+        int kind = rule.contains("->") ? 0 : rule.contains("=") ? 1 : 2;
+        x.open(kind);
+        boolean inBody = true;
+        for (String part : rule.trim().split(" +")) {
+            if (part.equals("->") || part.equals("=") || part.equals("?")) {
+                inBody = false;
+            } else if (inBody) {
+                x.body(digit(part, 0), digit(part, 2), digit(part, 3));
+            } else if (kind == 0) {
+                x.head(digit(part, 0), digit(part, 2), digit(part, 3));
+            } else {
+                x.pair(digit(part, 0), digit(part, 1));
+            }
+        }
+        return x;
+    }
+
+    private static int digit(String text, int i) {
+        return text.charAt(i) - '0';
     }
 
     static int[] atom(int relation, int v, int w) {
@@ -41,10 +82,12 @@ final class Scenes {
         return x;
     }
 
-    static void facts(MappingChase x, int relation, int... values) {
+    /** Facts of a relation, two values each; answers the object, for a scene in one line. */
+    static MappingChase facts(MappingChase x, int relation, int... values) {
         for (int i = 0; i + 1 < values.length; i += 2) {
             x.fact(relation, values[i], values[i + 1]);
         }
+        return x;
     }
 
     /** Starts the chase and runs it to its end. */
