@@ -1,6 +1,10 @@
 /** Promise 10, sentence by sentence: the positions, the edges of both kinds, and the ways back. */
 public final class AcyclicEdgesTest {
     private static final Sentences SENTENCES = new Sentences();
+    private static final String[] NAMES = {
+        "0123", "0132", "0213", "0231", "0312", "0321", "1023", "1032", "1203", "1230", "1302", "1320",
+        "2013", "2031", "2103", "2130", "2301", "2310", "3012", "3021", "3102", "3120", "3201", "3210",
+    };
 
     public static void main(String[] args) {
         whichHaveEdges();
@@ -22,15 +26,31 @@ public final class AcyclicEdgesTest {
         looks(false, rules);
     }
 
-    /** The order in which dependencies were made is nothing to it. */
+    /** Which number a variable has, and in which order dependencies were made, is nothing to it. */
     private static void looks(boolean want, String... rules) {
-        MappingChase x = Scenes.of(rules);
-        SENTENCES.due(String.join(", ", rules), x.acyclic(), want);
-        MappingChase y = new MappingChase();
-        for (int i = rules.length - 1; i >= 0; i--) {
-            Scenes.close(y, rules[i]);
+        for (String names : NAMES) {
+            MappingChase x = new MappingChase();
+            MappingChase turned = new MappingChase();
+            for (int i = 0; i < rules.length; i++) {
+                Scenes.close(x, renamed(rules[i], names));
+                Scenes.close(turned, renamed(rules[rules.length - 1 - i], names));
+            }
+            String name = String.join(", ", rules) + " with the variables " + names;
+            SENTENCES.due(name, x.acyclic(), want);
+            SENTENCES.due(name + ", the other way round", turned.acyclic(), want);
         }
-        SENTENCES.due("the other way round: " + String.join(", ", rules), y.acyclic(), want);
+    }
+
+    /** The same rule with other names for its variables: all digits but those before a colon. */
+    private static String renamed(String rule, String names) {
+        StringBuilder text = new StringBuilder(rule);
+        for (int i = 0; i < rule.length(); i++) {
+            boolean isRelation = i + 1 < rule.length() && rule.charAt(i + 1) == ':';
+            if (Character.isDigit(rule.charAt(i)) && !isRelation) {
+                text.setCharAt(i, names.charAt(rule.charAt(i) - '0'));
+            }
+        }
+        return text.toString();
     }
 
     private static void whichHaveEdges() {
@@ -45,7 +65,10 @@ public final class AcyclicEdgesTest {
             acyclic("2:01 2:12 = 02");
             acyclic("2:01 -> 3:12", "3:01 2:20 = 12");
         });
-        holds("10: a query has no edges", () -> acyclic("2:01 -> 3:12", "3:01 2:12 ? 01"));
+        holds("10: a query has no edges", () -> {
+            MappingChase x = Scenes.of("2:01 -> 3:12", "3:01 2:12 ? 01");
+            SENTENCES.due("with a query", x.acyclic(), true);
+        });
         holds("10: each variable x that occurs in the body and in the head", () -> {
             acyclic("2:01 -> 2:23");
             acyclic("2:01 -> 2:02");
@@ -144,6 +167,18 @@ public final class AcyclicEdgesTest {
             SENTENCES.due("when it is closed", x.acyclic(), false);
             SENTENCES.due("drop", x.drop(), 1);
             SENTENCES.due("when it is dropped", x.acyclic(), true);
+        });
+        holds("10: whether they are now, not whether they were", () -> {
+            for (int relation = 2; relation < 6; relation++) {
+                MappingChase x = Scenes.of("0:01 -> 2:01", relation + ":01 -> " + relation + ":20");
+                SENTENCES.due("by the first place", x.acyclic(), false);
+                x.drop();
+                SENTENCES.due("when it is dropped", x.acyclic(), true);
+                Scenes.close(x, relation + ":01 -> " + relation + ":12");
+                SENTENCES.due("by the second place", x.acyclic(), false);
+                x.drop();
+                SENTENCES.due("when it is dropped", x.acyclic(), true);
+            }
         });
         holds("10: all six dependencies count", () -> {
             String[] rules = {"0:01 -> 2:01", "2:01 = 01", "2:01 -> 3:01", "3:01 -> 4:01", "4:01 -> 5:12"};

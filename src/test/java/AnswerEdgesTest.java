@@ -19,9 +19,13 @@ public final class AnswerEdgesTest {
         SENTENCES.due(call, got, want);
     }
 
+    /** With the target fact (1, 2) of relation 2 in every state but BUILDING. */
     private static MappingChase asking(int state, String query) {
         MappingChase x = Scenes.inState(state);
+        x.step();
         Scenes.close(x, query);
+        due("state", x.state(), state);
+        due("the fact", x.at(2, 0), state == 0 ? MappingChase.NONE : 34);
         return x;
     }
 

@@ -177,6 +177,20 @@ public final class ChaseEdgesTest {
                 }
             }
         });
+        holds("14: with no target facts, and so no match of one", () -> {
+            MappingChase x = Scenes.facts(Scenes.of("0:01 -> 2:01", "2:00 -> 3:00", "2:01 -> 4:10", "2:10 -> 5:10"), 0, 5, 5, 6, 7);
+            Scenes.chase(x);
+            x.reset();
+            x.take(0, 5, 5);
+            x.take(0, 6, 7);
+            x.fact(0, 7, 6);
+            x.start();
+            due("three steps", x.run(9), 3);
+            SENTENCES.dueFacts("relation 2", x, 2, "7,6");
+            SENTENCES.dueFacts("relation 3", x, 3, "");
+            SENTENCES.dueFacts("relation 4", x, 4, "6,7");
+            SENTENCES.dueFacts("relation 5", x, 5, "7,6");
+        });
         holds("14: source facts stay", () -> {
             for (int state = 0; state < 5; state++) {
                 MappingChase x = Scenes.inState(state);

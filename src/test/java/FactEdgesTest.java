@@ -209,6 +209,17 @@ public final class FactEdgesTest {
             SENTENCES.dueFacts("relation 2", x, 2, "1,14 2,13 3,12 4,11 5,10");
             SENTENCES.dueFacts("relation 3", x, 3, "6,9 7,8 8,7 9,6 10,5");
         });
+        holds("9: what is taken away has no match by its second value, or by both, and what is left has", () -> {
+            MappingChase x = Scenes.of("0:10 -> 2:10", "0:00 -> 3:00", "0:02 0:12 -> 4:01");
+            Scenes.facts(x, 0, 1, 2, 1, 3, 4, 3, 5, 5, 6, 6, 6, 7, 7, 6, 0, 4);
+            x.take(0, 1, 3);
+            x.take(0, 5, 5);
+            x.take(0, 6, 7);
+            Scenes.chase(x);
+            SENTENCES.dueFacts("relation 2", x, 2, "0,4 1,2 4,3 6,6 7,6");
+            SENTENCES.dueFacts("relation 3", x, 3, "6,6");
+            SENTENCES.dueFacts("relation 4", x, 4, "0,0 1,1 4,4 6,6 6,7 7,6 7,7");
+        });
         holds("9: false when it was not there", () -> {
             takeNothing("the other way round", 0, 15, 0);
             takeNothing("of the other relation", 1, 0, 15);

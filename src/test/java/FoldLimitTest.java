@@ -11,7 +11,7 @@ public final class FoldLimitTest {
         {1, 0, 0, 3, 0, 2}, {1, 0, 1, 5, 1, 0, 4, 0, 1},
     };
     private static final int[][] FACTS_FOUND_AT_10000 = {
-        {0, 5, 4}, {1, 2, 1}, {0, 6, 6}, {1, 7, 7}, {0, 0, 4}, {1, 3, 7},
+        {0, 6, 5}, {1, 3, 2}, {0, 7, 7}, {1, 8, 8}, {0, 1, 5}, {1, 4, 8},
     };
 
     private static final int[][] FOUND_AT_10001 = {
@@ -28,8 +28,8 @@ public final class FoldLimitTest {
         {1, 0, 1, 4, 1, 0, 4, 0, 1},
     };
     private static final int[][] FACTS_NONE_WITH_10000 = {
-        {1, 4, 11}, {1, 0, 0}, {1, 8, 10}, {1, 9, 9}, {1, 7, 11}, {0, 5, 7}, {1, 0, 2}, {1, 8, 9},
-        {0, 6, 2}, {0, 10, 9},
+        {1, 5, 12}, {1, 1, 1}, {1, 9, 11}, {1, 10, 10}, {1, 8, 12}, {0, 6, 8}, {1, 1, 3}, {1, 9, 10},
+        {0, 7, 3}, {0, 11, 10},
     };
 
     /** An exhausted search has told each value of each null it came to, so 10001 cannot come out. */

@@ -204,6 +204,18 @@ public final class StepEdgesTest {
             x = chasing(Scenes.of("0:01 -> 2:02", "0:01 -> 2:03"), 1, 2);
             due("by a null", x.run(9), 1);
         });
+        holds("12: a free variable may be less than the others, or greater", () -> {
+            for (String rule : new String[] {"0:12 -> 2:01", "0:02 -> 2:10", "0:01 -> 2:20", "0:01 -> 2:30", "0:23 -> 2:12"}) {
+                MappingChase x = chasing(Scenes.of(rule), 5, 6);
+                due(rule, x.step(), 1);
+                dueFacts(rule, x, 2, "16,5");
+                due(rule, x.step(), 0);
+                x = Scenes.facts(Scenes.of("1:01 -> 2:01", rule), 1, 7, 5);
+                chasing(x, 5, 6);
+                due(rule + " by a constant", x.run(9), 1);
+                due("finished", x.state(), 2);
+            }
+        });
         holds("12: satisfied by the same value for each place of a free variable", () -> {
             MappingChase x = Scenes.of("0:01 -> 2:01 3:11", "1:01 -> 2:02 3:21");
             Scenes.facts(x, 1, 1, 2, 1, 3);
@@ -317,6 +329,17 @@ public final class StepEdgesTest {
             }
             due("nulls", x.nulls(), 0);
             dueFacts("the source facts", x, 0, "1,1");
+        });
+        holds("12: what was replaced has no match any more", () -> {
+            MappingChase x = chasing(Scenes.of("0:01 -> 2:22 3:02", "3:01 = 01", "2:00 -> 4:00", "2:01 -> 5:01"), 1, 1);
+            due("a fact", x.step(), 1);
+            dueFacts("before", x, 2, "16,16");
+            due("replaced", x.step(), 2);
+            due("one fact by both places", x.step(), 3);
+            dueFacts("relation 4", x, 4, "1,1");
+            due("one fact by each place", x.step(), 4);
+            dueFacts("relation 5", x, 5, "1,1");
+            due("no more", x.step(), 0);
         });
         holds("12: facts that come out the same are one", () -> {
             MappingChase x = chasing(Scenes.of("0:01 -> 2:02 3:21", "2:01 2:02 = 12"), 1, 5, 1, 6, 1, 7);
@@ -521,6 +544,9 @@ public final class StepEdgesTest {
             x.start();
             due("24 beside 12 source facts", x.run(99), 12);
             due("finished", x.state(), 2);
+            x = chasing(Scenes.of("0:01 -> 2:01 3:01", "0:01 -> 4:01 5:01", "0:01 -> 2:10"), 0, 1, 2, 3, 4, 5, 6, 7, 8, 9, 10, 11);
+            due("24 beside 6 source facts", x.run(12), 12);
+            due("the 25th", x.step(), -2);
         });
     }
 }

@@ -12,7 +12,7 @@ final class Wrong {
         -1, 4, 5, 8, 16, 32, 64, -4, -32, 256, 65536, 1 << 28, 1 << 29, 1 << 30, 1 << 31, Integer.MAX_VALUE,
     };
     static final int[] CONSTANTS = {
-        -1, 16, 17, 23, 24, 31, 32, 33, 34, 64, 65, -16, -31, -32, 256, 65537, (1 << 30) + 1, (1 << 31) + 1, 1 << 31,
+        -1, 16, 17, 23, 24, 31, 32, 33, 34, 47, 64, 65, -16, -17, -31, -32, 256, 65537, (1 << 30) + 1, (1 << 31) + 1, 1 << 31,
         Integer.MAX_VALUE,
     };
     /** None of these is the number of something that a relation or an answer has. */
