@@ -220,6 +220,16 @@ public final class FactEdgesTest {
             SENTENCES.dueFacts("relation 3", x, 3, "6,6");
             SENTENCES.dueFacts("relation 4", x, 4, "0,0 1,1 4,4 6,6 6,7 7,6 7,7");
         });
+        holds("9: what shares a value with what is taken away stays", () -> {
+            for (int value = 0; value < 14; value++) {
+                MappingChase x = Scenes.of("0:01 -> 2:01", "0:10 -> 3:10", "1:01 -> 4:01", "1:10 -> 5:10");
+                Scenes.facts(Scenes.facts(x, 0, 14, value, 14, 15), 1, value, 14, 15, 14);
+                due("the same first value", x.take(0, 14, 15), true);
+                due("the same second value", x.take(1, 15, 14), true);
+                Scenes.chase(x);
+                SENTENCES.due("what is left", targets(x), "14,v|14,v|v,14|v,14".replace("v", "" + value));
+            }
+        });
         holds("9: false when it was not there", () -> {
             takeNothing("the other way round", 0, 15, 0);
             takeNothing("of the other relation", 1, 0, 15);

@@ -248,6 +248,19 @@ public final class StepEdgesTest {
             due("one variable twice", x.run(9), 1);
             due("finished", x.state(), 2);
         });
+        holds("12: an equation's pair may be any of the variables", () -> {
+            for (int v = 0; v < 4; v++) {
+                for (int w = 0; w < 4; w++) {
+                    String rule = "2:" + v + w + " = " + v + w;
+                    MappingChase x = chasing(Scenes.of("0:01 -> 2:01", rule), 1, 1, 15, 15);
+                    due(rule + " is satisfied", x.run(9), 2);
+                    due("finished", x.state(), 2);
+                    x = chasing(Scenes.of("0:01 -> 2:01", rule), 1, 2);
+                    due(rule, x.run(9), 1);
+                    due(rule + " fails, but for a variable twice", x.state(), v == w ? 2 : 3);
+                }
+            }
+        });
     }
 
     private static void finishes() {
