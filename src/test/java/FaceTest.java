@@ -26,12 +26,41 @@ public final class FaceTest {
         checks.due("constructors", constructors.length, 1);
         checks.due("constructor's parameters", constructors[0].getParameterCount(), 0);
         checks.due("constructor is public", Modifier.isPublic(constructors[0].getModifiers()), true);
-        for (Class<?> inside : face.getDeclaredClasses()) {
+        Class<?>[] insides = face.getDeclaredClasses();
+        checks.due("some twelve classes at most", insides.length < 12, true);
+        bounds(checks, face);
+        for (Class<?> inside : insides) {
             int modifiers = inside.getModifiers();
             checks.due(inside + " is static", Modifier.isStatic(modifiers), true);
             checks.due(inside + " is hidden", Modifier.isPublic(modifiers) || Modifier.isProtected(modifiers), false);
+            bounds(checks, inside);
         }
         checks.end();
+    }
+
+    /** What LANGUAGE.md bounds in every class, as far as it can be counted from outside. */
+    private static void bounds(Checks checks, Class<?> type) {
+        for (Method method : type.getDeclaredMethods()) {
+            boolean hides = !Modifier.isPublic(method.getModifiers()) && isOfFace(method.getName());
+            checks.due(method + " bears the name of a public one", hides, false);
+            checks.due(method + " takes seven parameters at most", method.getParameterCount() <= 7, true);
+        }
+        int own = 0;
+        for (Field field : type.getDeclaredFields()) {
+            boolean isStatic = Modifier.isStatic(field.getModifiers());
+            checks.due(field + " is final if static", isStatic && !Modifier.isFinal(field.getModifiers()), false);
+            own += isStatic ? 0 : 1;
+        }
+        checks.due(type + " has some twenty fields at most", own <= 20, true);
+    }
+
+    private static boolean isOfFace(String name) {
+        for (String method : METHODS) {
+            if (method.contains(" " + name + "(")) {
+                return true;
+            }
+        }
+        return false;
     }
 
     private static void same(Checks checks, String what, TreeSet<String> got, String[] want) {
